@@ -127,6 +127,15 @@ public final class PromisesTest {
         Checks.feed(x, Checks.repeat(" ", 299));
         due("2 both refused", ISE, () -> x.append(0x6161, 0, 0, 0, 0));
         due("2 nothing was appended", 300, () -> x.append(0x61, 0, 0, 0, 0));
+        x.clearTape();
+        Checks.feed(x, Checks.repeat(" ", 298));
+        int[][] threes = {{0x616161, 0, 0, 0, 0}, {0, 0x616161, 0, 0, 0}, {0, 0, 0x616161, 0, 0}, {0, 0, 0, 0x616161, 0},
+            {0, 0, 0, 0, 0x616161}, {0x61, 0, 0x61, 0, 0x61}, {0, 0x61000000, 0, 0x6161, 0}};
+        for (int[] three : threes) {
+            due("2 three in " + java.util.Arrays.toString(three), ISE,
+                () -> x.append(three[0], three[1], three[2], three[3], three[4]));
+        }
+        due("2 two", 300, () -> x.append(0, 0x61, 0, 0x61000000, 0));
     }
 
     /** Promise 3. */
@@ -177,10 +186,10 @@ public final class PromisesTest {
 
     /** Promise 5. */
     private static void addText() {
-        WordFinder x = Checks.with("Cat dog CAT", "", "one\n2two,three" + (char) 255 + "`{@[z");
+        WordFinder x = Checks.with("Cat dog CAT", "", "one\n2two,three" + (char) 255 + "`{@[z AZaz");
         due("5 small letters", "cat dog cat", () -> Checks.text(x, 0));
         due("5 empty", "", () -> Checks.text(x, 1));
-        due("5 others separate", "one two three z", () -> Checks.text(x, 2));
+        due("5 others separate", "one two three z azaz", () -> Checks.text(x, 2));
         x.removeText(1);
         Checks.feed(x, "abcdef zzzzzz a");
         due("5 least free number", 1, x::addText);
@@ -557,6 +566,9 @@ public final class PromisesTest {
             full.putWord(i, 0, CAT);
         }
         due("30 in all hundred", CAT, () -> full.frequent(0));
+        full.putWord(99, 0, DOG);
+        due("30 again", CAT, () -> full.frequent(0));
+        due("30 in one of them", DOG, () -> full.frequent(1));
     }
 
     /** Promise 31. */
@@ -604,6 +616,7 @@ public final class PromisesTest {
         due("33 not in the index", 1, () -> x.neighbours(Checks.word("og")));
         due("34 not in the index", DOG, () -> x.neighbourAt(Checks.word("og"), 0));
         due("33 of one letter", 1, () -> x.neighbours(Checks.word("q")));
+        due("34 the only word", 1, () -> Checks.with("a").neighbourAt(2, 0));
         due("33 none", 0, () -> x.neighbours(ZZZZZZ));
         due("34 none", -1, () -> x.neighbourAt(ZZZZZZ, 0));
         refusesNoWords("33 neighbours", x::neighbours);
@@ -666,6 +679,9 @@ public final class PromisesTest {
         reads("a~1b", -1);
         reads("a~40b", -1);
         reads("a~01b", -1);
+        reads("a~9b", -1);
+        reads("a~39b", -1);
+        reads("a~19b", -1);
         reads("a~0b", 2);
         reads("a~00b", 2);
         reads("a~41b", 2);
@@ -768,17 +784,30 @@ public final class PromisesTest {
     private static void ranks() {
         WordFinder x = Checks.with("cat", "cat cat cat", "dog", "cat cat", "dog cat cat");
         due("38 ask", 4, () -> Checks.ask(x, "cat"));
-        int[] ranks = {1, 3, 4, 0};
-        int[] scores = {3, 2, 2, 1};
-        for (int i = 0; i < 4; i++) {
+        ranked(x, new int[] {1, 3, 4, 0}, new int[] {3, 2, 2, 1});
+        Checks.feed(x, "cat cat cat cat");
+        x.addText();
+        due("38 with dogs", 6, () -> Checks.ask(x, "cat&!dog|dog"));
+        ranked(x, new int[] {5, 1, 4, 3, 0, 2}, new int[] {4, 3, 3, 2, 1, 1});
+        due("38 none", -1, () -> x.rankAt(6));
+        due("38 again", 6, () -> Checks.ask(x, "dog|!dog"));
+        ranked(x, new int[] {2, 4, 0, 1, 3, 5}, new int[] {1, 1, 0, 0, 0, 0});
+        for (int none : new int[] {-1, 6, Integer.MIN_VALUE, Integer.MAX_VALUE}) {
+            due("38 none", -1, () -> x.rankAt(none));
+            due("39 none", -1, () -> x.scoreAt(none));
+        }
+        scoresOfParts();
+    }
+
+    private static void ranked(WordFinder x, int[] ranks, int[] scores) {
+        for (int i = 0; i < ranks.length; i++) {
             int rank = i;
             due("38 rank", ranks[i], () -> x.rankAt(rank));
             due("39 score", scores[i], () -> x.scoreAt(rank));
         }
-        for (int none : new int[] {-1, 4, Integer.MIN_VALUE, Integer.MAX_VALUE}) {
-            due("38 none", -1, () -> x.rankAt(none));
-            due("39 none", -1, () -> x.scoreAt(none));
-        }
+    }
+
+    private static void scoresOfParts() {
         WordFinder y = Checks.with("a a a", "ab b a abc", "a b a b", "x y z x y x");
         scores(y, "a*", 1, 3);
         scores(y, "a~1a", 0, 4);
@@ -1067,6 +1096,7 @@ public final class PromisesTest {
         due("53 both without words", 0, () -> x.nearest(5));
         due("53 not itself", 0, () -> x.nearest(6));
         refusesTexts("53 nearest", x::nearest);
+        due("53 one word each", 1, () -> Checks.with("a", "a", "a").nearest(0));
         due("53 no other one", -1, () -> Checks.with("a").nearest(0));
         due("53 empty and alone", -1, () -> Checks.with("").nearest(0));
         WordFinder y = Checks.with("", "a b c d e", "b c d e f g h", "a x");
