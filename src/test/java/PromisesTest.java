@@ -882,6 +882,15 @@ public final class PromisesTest {
                 return Checks.written(x, 1);
             });
         }
+        Checks.keep(x, 0, Checks.repeat("a|b&(", 8) + "c|d" + Checks.repeat(")", 8));
+        x.keepNot(1, 0);
+        due("41 as deep as can be", Checks.repeat("!a&(!b|", 8) + "!c&!d" + Checks.repeat(")", 8),
+            () -> Checks.written(x, 1));
+        x.keepNot(2, 1);
+        due("41 and back", Checks.written(x, 0), () -> Checks.written(x, 2));
+        due("43 as deep as can be", 18, () -> x.parts(2));
+        due("49 as deep as can be", -1, () -> x.compare(0, 2));
+        due("49 and its negation", 0, () -> x.compare(0, 1));
         Checks.keep(x, 2, "a&!b");
         due("41 found now", 2, () -> x.keepNot(2, 2));
         due("41 in place of itself", "!a|b", () -> Checks.written(x, 2));
@@ -959,6 +968,9 @@ public final class PromisesTest {
             Checks.keep(x, 0, query.getKey());
             due("45 " + query.getKey(), query.getValue(), () -> Checks.written(x, 0));
         }
+        String deep = Checks.repeat("a|b&(", 8) + "c|d" + Checks.repeat(")", 8);
+        Checks.keep(x, 0, deep);
+        due("45 as deep as can be", deep, () -> Checks.written(x, 0));
         Checks.keep(x, 0, "a|b");
         due("45 signs", 3, () -> x.write(0));
         due("46 sign", '|', () -> x.writtenAt(1));
