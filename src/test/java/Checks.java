@@ -85,6 +85,19 @@ final class Checks {
         });
     }
 
+    /** Section 3: a query that ask() and keep() read, or at which position they find its error; the tape is empty then. */
+    static void reads(String query, int error) {
+        WordFinder x = new WordFinder();
+        Object answer = error < 0 ? 0 : "throws IllegalArgumentException";
+        due("ask " + query, answer, () -> ask(x, query));
+        due("error of " + query, error, x::errorPosition);
+        due("tape after " + query, 0, x::clearTape);
+        due("keep " + query, answer, () -> keep(x, 3, query));
+        due("error of kept " + query, error, x::errorPosition);
+        due("tape after kept " + query, 0, x::clearTape);
+        due("kept " + query, error < 0, () -> outcome(() -> x.parts(3)) instanceof Integer);
+    }
+
     static String written(WordFinder x, int place) {
         int size = x.write(place);
         StringBuilder all = new StringBuilder();

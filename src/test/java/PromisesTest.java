@@ -623,21 +623,8 @@ public final class PromisesTest {
         refusesNoWords("34 neighbourAt", w -> x.neighbourAt(w, 0));
     }
 
-    /** Section 3: a query that reads, or the position of its error. */
     private static void reads(String query, int error) {
-        WordFinder x = new WordFinder();
-        due("35 ask " + query, error < 0 ? 0 : IAE, () -> {
-            Checks.feed(x, query);
-            return x.ask();
-        });
-        due("35 error of " + query, error, x::errorPosition);
-        due("35 tape after " + query, 0, x::clearTape);
-        due("40 keep " + query, error < 0 ? 0 : IAE, () -> {
-            Checks.feed(x, query);
-            return x.keep(3);
-        });
-        due("40 error of " + query, error, x::errorPosition);
-        due("40 tape after " + query, 0, x::clearTape);
+        Checks.reads(query, error);
     }
 
     /** Section 3, promises 35 and 40: the grammar. */
