@@ -361,7 +361,7 @@ public final class CallsBoundaryTest {
         due("the last part", true, () -> x.partFound(0, parts - 1) >= 0);
         due("the last sign", ')', () -> x.writtenAt(signs - 1));
         Twins.refused("event 100 of a hundred", IOOBE, Twins::loud, y -> y.eventOf(100, 0));
-        due("event 99 of a hundred", 1, () -> Twins.loud().eventOf(99, 0));
+        due("event 99 of a hundred", 5, () -> Twins.loud().eventOf(99, 0));
     }
 
     /** What a new object refuses. */
@@ -689,6 +689,8 @@ public final class CallsBoundaryTest {
         due("one of a hundred", 1, () -> Checks.keep(full, 0, "cat"));
         due("all others", 99, () -> full.keepNot(0, 0));
         due("a hundred", 100, () -> Checks.keep(full, 0, "cat|!cat"));
+        due("none in place of a hundred", 0, () -> Checks.keep(full, 0, "zebra"));
+        due("no errors", 0, full::errors);
     }
 
     /** "0 to 5, perhaps the same", and "this makes no events". */
@@ -706,6 +708,28 @@ public final class CallsBoundaryTest {
             x.takeWord(0, 0);
             due("both tell then", 2, x::events);
         }
+        for (String query : List.of("!!!!!!!!a", "!!!!!!!a", "a|b&(c|!d)", "((((((((a|b)&c)|d)&a)|b)&c)|d)&a)")) {
+            negatedOften(query);
+        }
+    }
+
+    /** A kept query does not grow by being negated again and again. */
+    private static void negatedOften(String query) {
+        WordFinder x = Checks.with("a", "b", "c d", "");
+        Checks.keep(x, 3, query);
+        int found = x.askKept(3);
+        // Each negation takes one of these eight, so behind ten of them any query goes to and fro.
+        for (int i = 0; i < 10; i++) {
+            x.keepNot(3, 3);
+        }
+        String written = Checks.written(x, 3);
+        for (int i = 0; i < 390; i++) {
+            x.keepNot(3, 3);
+        }
+        due("400 times negated " + query, written, () -> Checks.written(x, 3));
+        due("finds as many", found, () -> x.askKept(3));
+        due("finds the others", 4 - found, () -> x.keepNot(3, 3));
+        due("no errors", 0, x::errors);
     }
 
     /** "Returns true if one was kept there", at each place. */

@@ -614,14 +614,10 @@ public final class QueriesBoundaryTest {
 
     /** "With ( ) only where the grammar needs them so that the same parts are joined." */
     private static void brackets() {
-        WordFinder x = new WordFinder();
         for (String same : List.of("a", "a&b", "a|b", "a&b|c", "a|b&c", "(a|b)&c", "a&(b|c)", "(a&b)&c", "a&(b&c)",
             "(a|b)|c", "a|(b|c)", "!a", "!!a", "!(a|b)", "!(a&b)", "!a|!b", "!a&!b", "!(!(a|b)&c)", "a*", "a~5b",
             "a~40b", "[a]", "[a b c]", "![a b]", "!a*", "!a~1b", "(a|b)&(c|d)|e", "((a|b)&c|d)&e", "a&b|c&d")) {
-            due("written " + same, same, () -> {
-                Checks.keep(x, 0, same);
-                return Checks.written(x, 0);
-            });
+            writes(same, same);
         }
         Map<String, String> fewer = Map.ofEntries(Map.entry("(a)", "a"), Map.entry("((((((((a))))))))", "a"),
             Map.entry("(a|b)", "a|b"), Map.entry("((a&b))", "a&b"), Map.entry("(a&b)|c", "a&b|c"),
@@ -630,18 +626,24 @@ public final class QueriesBoundaryTest {
             Map.entry("!(!(a))", "!!a"), Map.entry("([a  b])", "[a b]"), Map.entry(" a * ", "a*"),
             Map.entry("\na ~ 01 b", "a~1b"), Map.entry("[\na\n]", "[a]"), Map.entry("( a & b ) | ( c & d )", "a&b|c&d"));
         for (Map.Entry<String, String> query : fewer.entrySet()) {
-            due("written " + query.getKey(), query.getValue(), () -> {
-                Checks.keep(x, 1, query.getKey());
-                return Checks.written(x, 1);
-            });
+            writes(query.getKey(), query.getValue());
         }
         String longest = repeat("abcdef~40zzzzzz&", 9) + "abcdef~40zzzzzz";
+        WordFinder x = new WordFinder();
         Checks.keep(x, 2, longest);
         due("longest", longest, () -> Checks.written(x, 2));
         x.keepNot(2, 2);
         due("signs of its negation", longest.length() + 10, () -> x.write(2));
         due("its last sign", 'z', () -> x.writtenAt(longest.length() + 9));
         due("none behind it", "throws IndexOutOfBoundsException", () -> x.writtenAt(longest.length() + 10));
+    }
+
+    private static void writes(String query, String written) {
+        due("written " + query, written, () -> {
+            WordFinder x = new WordFinder();
+            Checks.keep(x, 5, query);
+            return Checks.written(x, 5);
+        });
     }
 
     private static Object compared(String first, String second) {
@@ -678,6 +680,16 @@ public final class QueriesBoundaryTest {
         compares("a&b&c&d&e&f&g&h&i&j", "a&!a", "10 a b c d e f g h i j");
         compares("aj&ai&ah&ag&af&ae&ad&ac&ab&aa", "aa&!aa", "10 aa ab ac ad ae af ag ah ai aj");
         compares("a|b|c|d|e|f|g|h|i|j|k", "a|b|c|d|e|f|g|h|i|j|k", ISE);
+        WordFinder both = new WordFinder();
+        Checks.keep(both, 0, ten);
+        Checks.keep(both, 1, "k&l&m&n&o&p&q&r&s&t");
+        Checks.keep(both, 2, "z");
+        due("ten words", -1, () -> both.compare(0, 0));
+        due("ten other words", -1, () -> both.compare(1, 1));
+        due("twenty", ISE, () -> both.compare(0, 1));
+        due("eleven", ISE, () -> both.compare(2, 0));
+        due("ten words again", -1, () -> both.compare(0, 0));
+        due("one word", -1, () -> both.compare(2, 2));
         due("eleven, with itself", ISE, () -> {
             WordFinder x = new WordFinder();
             Checks.keep(x, 0, ten + "|k");

@@ -28,6 +28,9 @@ public final class TermsBoundaryTest {
         firstOfSeveralErrors();
         wordsOfTheIndex();
         textsOfAWord();
+        textsThatLoseAWord();
+        wordsOfAHundredTexts();
+        twoThousandWords();
         placesOfAWord();
         neighboursOfAllShortWords();
         neighboursAtTheLimits();
@@ -150,12 +153,12 @@ public final class TermsBoundaryTest {
     private static void orderOfADictionary() {
         String[] order = {"a", "aa", "aaaaaa", "aaaaab", "aaaaaz", "aaaab", "ab", "az", "azzzzz", "b", "ba", "bazzzz",
             "bb", "y", "yzzzzz", "z", "za", "zz", "zzzzz", "zzzzza", "zzzzzz"};
-        WordFinder x = Checks.with("zzzzzz bb a az aaaaab y ba azzzzz zz aa", "zzzzza yzzzzz b aaaaaz aaaaaa z za",
-            "zzzzz ab aaaab bazzzz");
-        due("all words", order.length, x::words);
         for (int i = 0; i < order.length; i++) {
+            WordFinder x = Checks.with("zzzzzz bb a az aaaaab y ba azzzzz zz aa", "zzzzza yzzzzz b aaaaaz aaaaaa z za",
+                "zzzzz ab aaaab bazzzz");
             int at = i;
             int word = Checks.word(order[i]);
+            due("all words", order.length, x::words);
             due("order", order[i], () -> Checks.letters(x.indexWord(at)));
             due("behind " + order[i], i + 1 < order.length ? Checks.word(order[i + 1]) : -1, () -> x.beside(word, true));
             due("ahead of " + order[i], i > 0 ? Checks.word(order[i - 1]) : -1, () -> x.beside(word, false));
@@ -386,6 +389,92 @@ public final class TermsBoundaryTest {
         due("others found", 90, () -> Checks.ask(x, "!cat"));
     }
 
+    /** A hundred texts lose a word, one by one, and a kept query follows them: none of them is taken for another one. */
+    private static void textsThatLoseAWord() {
+        WordFinder x = new WordFinder();
+        for (int i = 0; i < 100; i++) {
+            x.addText();
+            x.putWord(i, 0, CAT);
+        }
+        Checks.keep(x, 0, "cat");
+        int[] losing = {64, 0, 63, 99, 65, 1, 62, 98, 32, 31};
+        for (int i = 0; i < losing.length; i++) {
+            int event = i;
+            int text = losing[i];
+            x.takeWord(text, 0);
+            due("in as many", 99 - event, () -> x.textsWith(CAT));
+            due("the latest event", "0 " + text + " 0",
+                () -> x.eventOf(event, 0) + " " + x.eventOf(event, 1) + " " + x.eventOf(event, 2));
+            for (int j = 0; j < losing.length; j++) {
+                int other = losing[j];
+                due("in " + other + " behind " + text, j > i, () -> x.isIn(CAT, other));
+            }
+        }
+        due("ten events", 10, x::events);
+        due("no errors", 0, x::errors);
+        due("undo", 31, x::undo);
+        due("in it again", true, () -> x.isIn(CAT, 31));
+        due("an event more", 11, x::events);
+        due("found anew", 91, () -> x.askKept(0));
+    }
+
+    /** A great index: two thousand unlike words, the first and the last of them. */
+    private static void twoThousandWords() {
+        WordFinder x = new WordFinder();
+        for (int i = 0; i < 50; i++) {
+            StringBuilder text = new StringBuilder();
+            for (int j = 0; j < 40; j++) {
+                int number = 40 * i + j;
+                text.append((char) ('a' + number / 676)).append((char) ('a' + number / 26 % 26))
+                    .append((char) ('a' + number % 26)).append(' ');
+            }
+            Checks.feed(x, text.toString());
+            x.addText();
+        }
+        int last = Checks.word("cyx");
+        due("two thousand", 2000, x::words);
+        due("the first", "aaa", () -> Checks.letters(x.firstWord()));
+        due("the last", last, x::lastWord);
+        due("the last by its place", last, () -> x.indexWord(1999));
+        due("no more", IOOBE, () -> x.indexWord(2000));
+        due("the last by its rank", last, () -> x.frequent(1999));
+        due("no more ranks", IOOBE, () -> x.frequent(2000));
+        due("between all", 1999, () -> x.between(Checks.word("aaa"), last));
+        due("begin with a letter", 676, () -> x.beginning(Checks.word("b")));
+        due("begin with the last letter", 648, () -> x.beginning(Checks.word("c")));
+        due("neighbours", 25 + 25 + 2, () -> x.neighbours(Checks.word("aaa")));
+        due("found by a letter", 18, () -> Checks.ask(x, "b*"));
+        due("no errors", 0, x::errors);
+        due("one less", 40, () -> x.removeText(49));
+        due("then", 1960, x::words);
+    }
+
+    /** Promises 30 and 31 where a word is in all hundred texts, and another one in all but one. */
+    private static void wordsOfAHundredTexts() {
+        WordFinder x = new WordFinder();
+        for (int i = 0; i < 100; i++) {
+            x.addText();
+            x.putWord(i, 0, DOG);
+            if (i > 0) {
+                x.putWord(i, 0, CAT);
+            }
+        }
+        for (int i = 0; i < 3; i++) {
+            due("in a hundred", DOG, () -> x.frequent(0));
+            due("in ninety-nine", CAT, () -> x.frequent(1));
+            due("no more", IOOBE, () -> x.frequent(2));
+        }
+        due("together in ninety-nine", 99, () -> x.together(CAT, DOG));
+        due("with itself in a hundred", 100, () -> x.together(DOG, DOG));
+        due("companions", CAT + " " + DOG, () -> x.companion(DOG) + " " + x.companion(CAT));
+        x.putWord(0, 0, CAT);
+        due("both in a hundred, the first one of a dictionary", CAT, () -> x.frequent(0));
+        due("then the other one", DOG, () -> x.frequent(1));
+        due("together in a hundred", 100, () -> x.together(CAT, DOG));
+        x.takeWord(64, 1);
+        due("one less", "99 " + CAT, () -> x.together(CAT, DOG) + " " + x.frequent(0));
+    }
+
     /** As many places as can be: a hundred texts of forty words. */
     private static void placesOfAWord() {
         WordFinder x = new WordFinder();
@@ -516,6 +605,9 @@ public final class TermsBoundaryTest {
         due("without words, three of them", 1, () -> Checks.with("", "", "").nearest(0));
         due("0 of both is no more than 0", 1, () -> Checks.with("", "a", "").nearest(0));
         due("0 of both is no less than 0", 1, () -> Checks.with("", "", "a").nearest(0));
+        due("1/1 and 1/1", 1, () -> Checks.with("a", "a", "a").nearest(0));
+        due("1/1 and 1/2", 1, () -> Checks.with("a", "a", "a b").nearest(0));
+        due("1/2 and 1/1", 2, () -> Checks.with("a", "a b", "a a a").nearest(0));
         due("1/3 and 2/6", 1, () -> Checks.with("a b", "a c", "a b c d e f").nearest(0));
         due("2/6 and 1/3", 1, () -> Checks.with("a b", "a b c d e f", "a c").nearest(0));
         due("1/3 and 2/5", 2, () -> Checks.with("a b", "a c", "a b c d e").nearest(0));

@@ -69,18 +69,23 @@ final class Twins {
         return x;
     }
 
-    /** A text of forty words, a hundred events, and twenty changes that can be undone. */
+    /** A text of forty words, a hundred events of more, and twenty changes of more that can be undone. */
     static WordFinder loud() {
         WordFinder x = Checks.with(Checks.repeat("a ", 40));
-        Checks.keep(x, 1, "b");
-        for (int i = 0; i < 101; i++) {
+        for (int i = 0; i < 6; i++) {
+            Checks.keep(x, i, i % 2 == 0 ? "b" : "!b");
+        }
+        for (int i = 0; i < 21; i++) {
             x.setWord(0, 39, 1 + (i + 1) % 2);
         }
         Checks.feed(x, "!b");
         return x;
     }
 
-    /** All that the calls show, but for the error position: first what they show as it stands, then what they bring out. */
+    /**
+     * All that the calls show, but for the error position: first what they show as it stands, then what they bring
+     * out. It takes so few calls that no object comes to its 513th.
+     */
     private static String seen(WordFinder x) {
         StringBuilder all = new StringBuilder();
         texts(all, x);
@@ -96,7 +101,7 @@ final class Twins {
         tape(all, x);
         for (int i = x.undoable(); i > 0; i--) {
             int text = x.undo();
-            all.append("\nundone ").append(text).append(' ').append(Checks.outcome(() -> Checks.text(x, text)));
+            all.append("\nundone ").append(text).append(' ').append(Checks.outcome(() -> shortText(x, text)));
         }
         all.append("\nevents then ").append(x.events()).append(", ").append(x.undo());
         return all.toString();
@@ -108,10 +113,21 @@ final class Twins {
         }
     }
 
+    /** A short text whole, of a long one the ends. */
+    private static String shortText(WordFinder x, int text) {
+        int size = x.length(text);
+        return size < 8 ? Checks.text(x, text) : size + ": " + x.wordAt(text, 0) + " .. " + x.wordAt(text, size - 1);
+    }
+
+    /** The first and the last events whole, of those between one figure each. */
     private static void events(StringBuilder all, WordFinder x) {
-        all.append("\nevents");
-        for (int i = 0; i < x.events(); i++) {
-            all.append(' ').append(x.eventOf(i, 0)).append('/').append(x.eventOf(i, 1)).append('/').append(x.eventOf(i, 2));
+        int size = x.events();
+        all.append("\nevents ").append(size);
+        for (int i = 0; i < size; i++) {
+            boolean isWhole = i < 12 || i >= size - 12;
+            for (int what = isWhole ? 0 : i % 3; what <= (isWhole ? 2 : i % 3); what++) {
+                all.append(what == 0 ? " " : "/").append(x.eventOf(i, what));
+            }
         }
     }
 
