@@ -80,6 +80,7 @@ public final class LanguageTest {
         face();
         classesInside();
         words(Files.readString(SOURCE));
+        lengths(Files.readAllLines(SOURCE));
         Checks.end("LanguageTest");
     }
 
@@ -129,6 +130,9 @@ public final class LanguageTest {
         }
         for (Method method : WordFinder.class.getDeclaredMethods()) {
             atMostSeven(method);
+            if (Modifier.isPrivate(method.getModifiers())) {
+                Checks.due("no name of the face: " + method, false, () -> names.contains(method.getName()));
+            }
         }
         membersOf(WordFinder.class);
     }
@@ -166,5 +170,22 @@ public final class LanguageTest {
         Checks.due("imports", "[java.util.ArrayList, java.util.NoSuchElementException]", all::toString);
         Checks.due("no package", false, () -> code.contains("package "));
         Checks.due("signs up to 127", true, () -> source.chars().allMatch(c -> c < 128));
+    }
+
+    /** Rule 11: a method begins at an indent of four or eight and ends at the next brace of this indent. */
+    private static void lengths(List<String> lines) {
+        Pattern head = Pattern.compile("( {4}| {8})[^ */}].*\\).*\\{");
+        int count = 0;
+        for (int i = 0; i < lines.size(); i++) {
+            Matcher begins = head.matcher(lines.get(i));
+            if (begins.matches()) {
+                int first = i;
+                int length = lines.subList(first, lines.size()).indexOf(begins.group(1) + "}") + 1;
+                Checks.due("at most sixty lines: " + lines.get(first), true, () -> length > 0 && length <= 60);
+                count++;
+            }
+        }
+        int methods = count;
+        Checks.due("methods are seen", true, () -> methods > 150);
     }
 }
