@@ -13,7 +13,6 @@ import java.util.List;
 import java.util.regex.Matcher;
 import java.util.regex.Pattern;
 import java.util.stream.Stream;
-import javax.tools.ToolProvider;
 
 /** Holds the program of README.md against what the page says that it prints, and its lines against their answers. */
 public final class ReadmeTest {
@@ -24,7 +23,7 @@ public final class ReadmeTest {
     private ReadmeTest() {
     }
 
-    public static void main(String[] args) throws IOException, ReflectiveOperationException {
+    public static void main(String[] args) throws IOException, InterruptedException, ReflectiveOperationException {
         String page = Files.readString(Path.of("README.md"));
         List<String> java = blocks(page, "java");
         Path folder = Files.createTempDirectory("readme");
@@ -32,8 +31,8 @@ public final class ReadmeTest {
         Path lines = folder.resolve("Lines.java");
         Files.writeString(program, java.get(0));
         Files.writeString(lines, classOf(java.subList(1, java.size())));
-        int code = ToolProvider.getSystemJavaCompiler().run(null, null, null, "-encoding", "UTF-8", "-cp",
-            System.getProperty("java.class.path"), "-d", folder.toString(), program.toString(), lines.toString());
+        int code = new ProcessBuilder("javac", "-encoding", "UTF-8", "-cp", System.getProperty("java.class.path"),
+            "-d", folder.toString(), program.toString(), lines.toString()).inheritIO().start().waitFor();
         Checks.due("the page's program and lines compile", 0, () -> code);
         if (code == 0) {
             try (URLClassLoader loader = new URLClassLoader(new URL[] {folder.toUri().toURL()})) {
